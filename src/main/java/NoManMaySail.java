@@ -282,8 +282,8 @@ public final class NoManMaySail {
       return NO_SUCH;
     }
     int reached = now.savedBy(p);
-    // A line has at most as many links as there are SAILORS.
-    for (int link = 1; link < MOST; link++) {
+    // The first link stands; a line of all SAILORS has one fewer than they are.
+    for (int link = 2; link < MOST; link++) {
       int farther = reached;
       for (int r = 0; r < now.size; r++) {
         farther |= holds(reached, r) ? now.savedBy(r) : 0;
