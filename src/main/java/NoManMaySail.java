@@ -1110,6 +1110,12 @@ public final class NoManMaySail {
       return was;
     }
 
+    /** THE TEXT bars a LOST one from BOATS alone: that he is ASHORE is so already. */
+    private boolean comesTo(int p, int where) {
+      boolean already = has(p) && isLost(p) && where == ASHORE;
+      return already || moves(p, where) >= 0;
+    }
+
     private int rules(int what, int v) {
       if (what == 0 && within(v, 0, LAWS - 1)) {
         int was = law;
@@ -1145,7 +1151,7 @@ public final class NoManMaySail {
         case 's':
           return notes(a, b, text.digit(at + 3)) >= 0;
         case 'b':
-          return moves(a, b) >= 0;
+          return comesTo(a, b);
         case 'l':
           return rules(0, a) >= 0;
         case 'w':

@@ -315,6 +315,9 @@ final class Model {
       case 's':
         return saves(a, b, number % 10) >= 0;
       case 'b':
+        if (b == 9 && w.is(a) && w.men.get(a).lost) {
+          return true;
+        }
         return boards(a, b) >= 0;
       case 'l':
         return sets(0, number) >= 0;

@@ -132,7 +132,18 @@ public final class PromiseTest {
       due("sense of '" + texts[i] + "': SEASON", x.count(3), 0);
     }
     NoManMaySail x = Ships.ship("p24;p00;b00;n01;");
-    due("a LOST one goes nowhere", Ships.cape(x, "b09;"), -2000);
+    for (int boat = 0; boat <= 8; boat++) {
+      due("a LOST one goes to no BOAT " + boat, Ships.cape(x, "b0" + boat + ";"), -2000);
+    }
+    due("a LOST one is ASHORE", Ships.cape(x, "b09;"), 1);
+    due("a LOST one is ASHORE ahead of others", Ships.cape(x, "b09;l3;b09;b19;"), 4);
+    due("a LOST one is ASHORE, but no such one", Ships.cape(x, "b09;b39;"), -2004);
+    due("told ASHORE he is LOST still", x.sailor(0, 3), 1);
+    due("told ASHORE he is there", x.sailor(0, 2), 9);
+    due("boards refuses him ASHORE, too", x.boards(0, 9), -3);
+    x.sets(0, 2);
+    due("he is LOST and ASHORE in one text", Ships.cape(x, "p24;b21;n01;b29;w5;"), 5);
+    due("he is LOST in that text", x.sailor(2, 3), 1);
     due("a LOST one may have SAVED", Ships.cape(x, "s012;s103;"), 2);
   }
 
