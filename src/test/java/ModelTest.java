@@ -1,9 +1,6 @@
-import java.lang.reflect.InvocationTargetException;
-import java.lang.reflect.Method;
 import java.util.ArrayList;
-import java.util.LinkedHashMap;
+import java.util.Arrays;
 import java.util.List;
-import java.util.Map;
 import java.util.Random;
 
 /** Runs of drawn calls, each answered by the class as by the model; the seeds are written down. */
@@ -28,7 +25,6 @@ public final class ModelTest {
   };
 
   private static final Check check = new Check();
-  private static final Map<String, Method[]> methods = new LinkedHashMap<>();
 
   private final Random random;
   private final NoManMaySail ship = new NoManMaySail();
@@ -40,14 +36,14 @@ public final class ModelTest {
     random = new Random(seed);
   }
 
-  public static void main(String[] args) throws Exception {
+  public static void main(String[] args) {
     for (int run = 0; run < RUNS && check.failed() < 5; run++) {
       new ModelTest(run).sail();
     }
     check.end("ModelTest");
   }
 
-  private void sail() throws Exception {
+  private void sail() {
     boolean filled = random.nextInt(5) > 0;
     if (filled) {
       cape(crewText());
@@ -83,7 +79,7 @@ public final class ModelTest {
   }
 
   /** Keeps a run from coming to rest: who is ashore boards again, laws and seas change. */
-  private void shape() throws Exception {
+  private void shape() {
     switch (random.nextInt(4)) {
       case 0:
         call("boards", anyone(), random.nextInt(3));
@@ -100,7 +96,7 @@ public final class ModelTest {
     }
   }
 
-  private void drawn(String line) throws Exception {
+  private void drawn(String line) {
     String[] words = line.split(" ");
     int[] arguments = new int[words.length - 1];
     for (int i = 0; i < arguments.length; i++) {
@@ -189,7 +185,7 @@ public final class ModelTest {
     return text.toString();
   }
 
-  private void cape(String text) throws Exception {
+  private void cape(String text) {
     call("row", 0, 0, text.length());
     for (int i = 0; i < text.length(); i++) {
       call("put", 0, i, text.charAt(i));
@@ -198,7 +194,7 @@ public final class ModelTest {
     calls -= text.length();
   }
 
-  private void whereabouts() throws Exception {
+  private void whereabouts() {
     if (people() == 0) {
       return;
     }
@@ -214,7 +210,7 @@ public final class ModelTest {
     call("whatIs", 1, p, 1);
   }
 
-  private void lostOnes() throws Exception {
+  private void lostOnes() {
     int[] cells = new int[random.nextInt(30)];
     for (int i = 0; i < cells.length; i++) {
       cells[i] = (int) model.lostIn(i);
@@ -223,7 +219,7 @@ public final class ModelTest {
     call("judge", 1);
   }
 
-  private void pairs() throws Exception {
+  private void pairs() {
     List<Integer> list = new ArrayList<>();
     for (int p = 0; p < people(); p++) {
       for (int q = 0; q < people(); q++) {
@@ -241,7 +237,7 @@ public final class ModelTest {
   }
 
   /** Puts cells on shelf 1, some skipped and now and then one wrong. */
-  private void tell(int[] cells, int most) throws Exception {
+  private void tell(int[] cells, int most) {
     int sort = random.nextInt(3);
     int[] leasts = {Byte.MIN_VALUE, Short.MIN_VALUE, Integer.MIN_VALUE};
     call("row", 1, sort, cells.length);
@@ -253,38 +249,10 @@ public final class ModelTest {
     calls -= cells.length;
   }
 
-  private void call(String name, int... arguments) throws Exception {
-    Method[] pair = methods.get(name + arguments.length);
-    if (pair == null) {
-      Class<?>[] types = new Class<?>[arguments.length];
-      java.util.Arrays.fill(types, int.class);
-      pair = new Method[] {
-        NoManMaySail.class.getMethod(name, types), Model.class.getDeclaredMethod(name, types)
-      };
-      methods.put(name + arguments.length, pair);
-    }
-    Object[] boxed = new Object[arguments.length];
-    StringBuilder words = new StringBuilder(name).append('(');
-    for (int i = 0; i < arguments.length; i++) {
-      boxed[i] = arguments[i];
-      words.append(i == 0 ? "" : ", ").append(arguments[i]);
-    }
-    words.append(')');
+  private void call(String name, int... arguments) {
+    String words = name + Arrays.toString(arguments);
     told.append(words).append("; ");
-    long want = ((Number) pair[1].invoke(model, boxed)).longValue();
-    check.due(words.toString(), answer(pair[0], boxed), want);
+    check.due(words, Calls.answer(ship, name, arguments), Calls.answer(model, name, arguments));
     calls++;
-  }
-
-  private long answer(Method method, Object[] arguments) throws IllegalAccessException {
-    try {
-      return ((Number) method.invoke(ship, arguments)).longValue();
-    } catch (InvocationTargetException e) {
-      Class<?> thrown = e.getCause().getClass();
-      if (thrown == IllegalArgumentException.class) {
-        return Model.ILLEGAL_ARGUMENT;
-      }
-      return thrown == IllegalStateException.class ? Model.ILLEGAL_STATE : -7999999;
-    }
   }
 }

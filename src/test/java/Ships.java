@@ -35,6 +35,10 @@ final class Ships {
 
   /** All of the cape and the shelves that calls tell without changing it. */
   static String seen(NoManMaySail x) {
+    return seenAtSea(x) + seenOnShelves(x);
+  }
+
+  static String seenAtSea(NoManMaySail x) {
     StringBuilder all = new StringBuilder();
     for (int what = 0; what < 7; what++) {
       all.append(x.count(what)).append(' ');
@@ -47,6 +51,11 @@ final class Ships {
         all.append(x.saved(p, q)).append(' ');
       }
     }
+    return all.toString();
+  }
+
+  static String seenOnShelves(NoManMaySail x) {
+    StringBuilder all = new StringBuilder();
     for (int d = 0; d < 8; d++) {
       all.append(x.cost(d)).append(' ').append(x.toss(d)).append(' ').append(cells(x, d));
     }
