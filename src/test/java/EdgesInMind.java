@@ -129,7 +129,7 @@ final class EdgesInMind {
         "text p00; = 1", "hire 0 9 1 = -4", "hire 2 0 0 = -4");
     // Alone by SEA 1: a SAILOR of FIGURE 5 has RISK 0 and stays; of FIGURE 6 only the safe ones do.
     script.run("w1;", "hire 0 5 60 = 0", "hire 1 6 60 = 1", "hire 2 4 1 = 1", "hire 0 0 60 = 0");
-    // A BOY or a STRANGER would FALL in the BOY's place, but he is LOST as well.
+    // The BOY has RISK 7: a BOSUN REACHES that from FIGURE 3 on, a TILLER always.
     script.run("p23;b00;", "hire 0 4 1 = 1", "hire 0 6 1 = 1", "hire 0 3 1 = 1", "hire 0 2 1 = 7");
   }
 

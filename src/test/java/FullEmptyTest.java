@@ -109,7 +109,8 @@ public final class FullEmptyTest {
     script.on(x, "foes",
         "count 6 = 28", "quarrels = 28", "with 0 = 0", "with 7 = 0", "largest 0 = 1", "largest 1 = 1",
         "fewestBoats -1 = 8", "fewestBoats 0 = 0", "fewestBoats 7 = 7", "manned 1 1 1 -1 = 1", "manned 1 1 1 2 = 2",
-        "manned 1 1 1 3 = 9", "manned 2 0 0 -1 = 0", "manned 0 2 0 0 = -4", "bestCrew 1 0 = 1", "bestCrew 2 0 = -4",
+        "manned 1 1 1 3 = 9", "manned 2 0 0 -1 = 0", "manned 0 2 0 0 = -4",
+        "fewestBoats -1 = 8", "fewestBoats 7 = 7", "manned 0 0 1 0 = 2", "bestCrew 1 0 = 1", "bestCrew 2 0 = -4",
         "cheapest 4 0 = 1", "cheapest 5 0 = -4", "strictest 1 = 0", "strictest 2 = 3", "strictest 8 = 3",
         "freeLaw 0 7 = 1", "owed 0 = 0", "owed 7 = 7", "owes 0 = 254", "owes 7 = 0", "mostOwed = 7",
         "rings 0 = 0", "line 7 0 = 1", "line 0 7 = 0", "stranger 0 0 = -4");
