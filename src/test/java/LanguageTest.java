@@ -5,6 +5,7 @@ import java.lang.reflect.Modifier;
 import java.nio.charset.StandardCharsets;
 import java.nio.file.Files;
 import java.nio.file.Path;
+import java.util.Arrays;
 import java.util.Set;
 import java.util.regex.Matcher;
 import java.util.regex.Pattern;
@@ -56,7 +57,14 @@ public final class LanguageTest {
     check.holds(c.getSimpleName() + " has some twenty fields", fields <= 20);
     for (Method m : c.getDeclaredMethods()) {
       check.holds(m.getName() + " takes at most seven", m.getParameterCount() <= 7);
+      boolean ofFace = c == NoManMaySail.class && Modifier.isPublic(m.getModifiers());
+      check.holds(m.getName() + " has a name of its own", ofFace || !isNameOfFace(m.getName()));
     }
+  }
+
+  private static boolean isNameOfFace(String name) {
+    return Arrays.stream(NoManMaySail.class.getMethods())
+        .anyMatch(m -> m.getDeclaringClass() == NoManMaySail.class && m.getName().equals(name));
   }
 
   /** By the indents of the source: 2 of the class's own methods, 4 of those inside. */
